@@ -1160,7 +1160,8 @@ public final class HailHill {
         // The shortest way from home through a set to its last STRIP grows out of smaller sets.
         private void fillRounds(int family) {
             int sets = land.sets();
-            rounds[family * sets] = 0;
+            int row = family << land.strips;
+            rounds[row] = 0;
             for (int set = 1; set < sets; set++) {
                 int shortest = Integer.MAX_VALUE;
                 for (int last = 0; last < land.strips; last++) {
@@ -1172,7 +1173,7 @@ public final class HailHill {
                         shortest = Math.min(shortest, way + home);
                     }
                 }
-                rounds[family * sets + set] = shortest;
+                rounds[row + set] = shortest;
             }
         }
 
@@ -1193,7 +1194,7 @@ public final class HailHill {
         }
 
         int roundOf(int family, int set) {
-            int at = family * land.sets() + set;
+            int at = (family << land.strips) + set;
             return at >= 0 && at < rounds.length ? rounds[at] : 0;
         }
 

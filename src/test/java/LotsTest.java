@@ -246,6 +246,11 @@ public final class LotsTest {
         Check.took("edge() of 94", hill, hill.edge(0, 1), 94);
         hill = Check.hill("strip a at 0 0 gives 99;strip b at 1 0 gives 85;hail 0 to 0 takes 8 odds 1;family x at 0 0 need 1;");
         Check.refused("edge() above 99", hill, hill.edge(0, 1), 6);
+        // 1410 less HUNGER against 1312, 1395 less HUNGER against 1296.
+        hill = Check.hill("strip a at 0 0 gives 94;strip b at 1 0 gives 82;hail 0 to 0 takes 8 odds 1;family x at 0 0 need 1;");
+        Check.took("edge() of 99", hill, hill.edge(0, 1), 99);
+        hill = Check.hill("strip a at 0 0 gives 93;strip b at 1 0 gives 81;hail 0 to 0 takes 8 odds 1;family x at 0 0 need 1;");
+        Check.refused("edge() of 100", hill, hill.edge(0, 1), 6);
     }
 
     private static void change() {

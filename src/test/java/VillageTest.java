@@ -7,6 +7,7 @@ public final class VillageTest {
         villageStays();
         goodTexts();
         faultsOfTokens();
+        faultsAtACut();
         faultsOfNames();
         faultsOfNumbers();
         faultsOfTooMany();
@@ -100,6 +101,7 @@ public final class VillageTest {
         good("strip a at00 07gives 99soil3;", 1, 0, 0);
         good("strip abcdefgh at 1 2 gives 3;strip abcdefg at 1 2 gives 3;", 2, 0, 0);
         good("hail 5 to 5 takes 0 odds 0;hail 0 to 99 takes 8 odds 16;", 0, 2, 0);
+        good("hail 99 to 99 takes 1 odds 1;", 0, 1, 0);
         good("frost 0 takes 1 odds 1;frost 99 takes 1 odds 1;", 0, 2, 0);
         good("dry 1 takes 1 odds 1;dry 3 takes 1 odds 1;blight takes 1 odds 1;", 0, 3, 0);
         good("family x at 0 0 need 0;family y at 99 99 need 99;", 0, 0, 2);
@@ -157,6 +159,29 @@ public final class VillageTest {
             fault("strip " + word + " at 1 1 gives 1;", 2, 6);
             fault("family " + word + " at 1 1 need 1;", 2, 7);
         }
+    }
+
+    private static void cutFault(String text, int n, int kind, int place) {
+        HailHill hill = new HailHill();
+        Check.feed(hill, text);
+        Check.refused("cut: " + text, hill, hill.village(n), 9);
+        Check.due("fault(0), cut: " + text, hill.fault(0), kind);
+        Check.due("fault(1), cut: " + text, hill.fault(1), place);
+    }
+
+    private static void faultsAtACut() {
+        cutFault("strip ab at 1 1 gives 1;", 7, 2, 7);
+        cutFault("strip a at 12 1 gives 1;", 12, 2, 12);
+        cutFault("strip a at 123 1 gives 1;", 13, 2, 13);
+        cutFault("strip a at 1 1 gives 1;", 22, 2, 22);
+        cutFault("strip a at 1 1 gives 1;", 3, 2, 0);
+        char[] full = new char[600];
+        java.util.Arrays.fill(full, ' ');
+        String blanks = new String(full, 0, 599);
+        cutFault(blanks + "a", 600, 2, 599);
+        cutFault(blanks + "7", 600, 2, 599);
+        cutFault(blanks + ";", 600, 2, 599);
+        cutFault(blanks + "#", 600, 1, 599);
     }
 
     private static void faultsOfNames() {
