@@ -1,0 +1,10 @@
+/** The document's sentences that name a boundary, each with what is just inside it and just outside it. */
+public final class EdgesTest {
+    public static void main(String[] args) {
+        TrayEdges.run();
+        TextEdges.run();
+        VillageEdges.run();
+        LotEdges.run();
+        Check.end();
+    }
+}
