@@ -90,6 +90,19 @@ final class Edge {
         }
     }
 
+    /** Two stories that must end alike, in the parts told. */
+    static void same(Story one, Story other, String... parts) {
+        Map<String, List<String>> want = Portrait.of(one.make());
+        Map<String, List<String>> got = Portrait.of(other.make());
+        for (String part : parts) {
+            boolean alike = got.get(part).equals(want.get(part));
+            Check.due(titled("alike: " + part), alike, true);
+            if (!alike) {
+                System.out.println("  one " + want.get(part) + "\n  other " + got.get(part));
+            }
+        }
+    }
+
     private static String titled(String told) {
         return "[" + sentence + "] " + told;
     }
