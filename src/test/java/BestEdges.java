@@ -348,6 +348,15 @@ final class BestEdges {
         Story struck = years(10, 5).village("strip a at 0 0 gives 30;strip b at 0 0 gives 15;hail 0 to 0 takes 8 odds 4;"
             + "family x at 0 0 need 10 holds a;family y at 0 0 need 5 holds b;");
         Edge.tells(struck, 1, 4, "beside", 0, 0, 1, -1, 0, 0);
+        // Without harm there is one LOT, and the gift comes in it.
+        String two = "strip a at 0 0 gives 9;strip b at 0 0 gives 15;family x at 0 0 need ";
+        for (int cousinNeed = 13; cousinNeed <= 16; cousinNeed++) {
+            Story story = Story.of(two + "10 holds a;family y at 0 0 need " + cousinNeed + " holds b;");
+            Edge.tells(story, cousinNeed <= 14 ? 0 : 1, 1, "beside", 0, 0, 1, -1, 0, 0);
+            // Who is not SHORT does not give to a COUSIN who is.
+            Story enough = Story.of(two + "9 holds a;family y at 0 0 need " + cousinNeed + " holds b;");
+            Edge.tells(enough, 0, 1, "beside", 0, 0, 1, -1, 0, 0);
+        }
         // The COUSIN pays no premium and gets no cover.
         Edge.tells(years(10, 5), 0, 1, "beside", 0, 0, 1, 0, 1, 0);
         Edge.tells(years(10, 6), 1, 4, "beside", 0, 0, 1, 0, 0, 0);

@@ -51,9 +51,18 @@ final class Edge {
         Check.due("the document says: " + words, document().contains(words), true);
     }
 
+    /** The story's object; its STATUS is another one than the call is to leave, so that this must be set. */
+    private static HailHill made(Story story, String name, int status) {
+        HailHill hill = story.make();
+        if (Face.hasStatus(name)) {
+            hill.many(status == 0 ? 9 : 0);
+        }
+        return hill;
+    }
+
     /** A call that is taken, with what is due. */
     static void gives(Story story, long want, String name, long... args) {
-        HailHill hill = story.make();
+        HailHill hill = made(story, name, 0);
         String told = Face.told(name, args);
         Check.due(titled(told), Face.call(hill, name, args), want);
         Check.due(titled("status of " + told), hill.status(), 0);
@@ -62,7 +71,7 @@ final class Edge {
 
     /** A call that is taken and tells a FRACTION. */
     static void tells(Story story, long top, long bottom, String name, long... args) {
-        HailHill hill = story.make();
+        HailHill hill = made(story, name, 0);
         String told = Face.told(name, args);
         Face.call(hill, name, args);
         Check.due(titled("status of " + told), hill.status(), 0);
@@ -73,7 +82,7 @@ final class Edge {
 
     /** A call that is refused: NONE or false, the STATUS, and nothing else is changed. */
     static void refuses(Story story, int status, String name, long... args) {
-        HailHill hill = story.make();
+        HailHill hill = made(story, name, status);
         String told = Face.told(name, args);
         Check.due(titled(told), Face.call(hill, name, args), Face.refusal(name));
         Check.due(titled("status of " + told), hill.status(), status);

@@ -1,5 +1,6 @@
 import java.lang.reflect.Method;
 import java.lang.reflect.Modifier;
+import java.util.List;
 import java.util.Map;
 import java.util.TreeMap;
 
@@ -32,6 +33,10 @@ final class Face {
         } catch (ReflectiveOperationException e) {
             throw new IllegalStateException(told(name, args), e);
         }
+    }
+
+    static boolean hasStatus(String name) {
+        return !List.of("status", "top", "bottom", "feed", "fault").contains(name);
     }
 
     /** What a refused call gives: NONE, or false. */

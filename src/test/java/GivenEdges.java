@@ -151,6 +151,11 @@ final class GivenEdges {
         ways(third.then("give", 0), 0, 1, 2);
         Story all = Story.of(strips(3) + "family x at 0 0 need 1;family y at 0 0 need 1;family z at 0 0 need 1;");
         ways(all.then("give", 1), 0, 1, 2);
+        // Only the very last of all ways feeds z.
+        Story last = Story.of(strips(8) + "family x at 0 0 need 0;family y at 0 0 need 0;family z at 0 0 need 8;");
+        Edge.tells(last, 0, 1, "give", 0);
+        ways(last.then("give", 0), 2, 2, 2, 2, 2, 2, 2, 2);
+        ways(last.then("give", 1), 2, 2, 2, 2, 2, 2, 2, 2);
         // Who holds what is no matter.
         ways(all.then("hold", 0, 2).then("hold", 1, 2).then("give", 0), 0, 1, 2);
     }
@@ -245,6 +250,10 @@ final class GivenEdges {
         Story two = Story.of("strip a at 0 0 gives 40;blight takes 4 odds 5;blight takes 4 odds 5;family x at 0 0 need 10 holds a;");
         Edge.gives(two, 2, "narrow", 0, 8);
         Edge.gives(two, 3, "narrow", 0, 9);
+        // 255 of 256 are not yet 16 sixteenths.
+        Story nearly = two.then("likely", 0, 15).then("likely", 1, 15);
+        Edge.gives(nearly, 2, "narrow", 0, 15);
+        Edge.gives(nearly, 3, "narrow", 0, 16);
     }
 
     private static void together() {

@@ -40,8 +40,7 @@ final class Portrait {
 
     private long ask(String name, long... args) {
         long answer = Face.call(hill, name, args);
-        boolean hasStatus = !List.of("status", "top", "bottom", "feed", "fault").contains(name);
-        rows.add(Face.told(name, args) + " -> " + answer + (hasStatus ? ", status " + hill.status() : ""));
+        rows.add(Face.told(name, args) + " -> " + answer + (Face.hasStatus(name) ? ", status " + hill.status() : ""));
         return answer;
     }
 

@@ -16,6 +16,7 @@ final class SwapEdges {
         firstRing();
         settle();
         firstOfTheFirstCouple();
+        settledByHand();
     }
 
     /** A STRIP far from home costs 2: x would have a for b if a gives more than 18, y if less than 22. */
@@ -226,5 +227,45 @@ final class SwapEdges {
         Edge.gives(fourSwaps(), 1, "settle");
         Edge.gives(fourSwaps().then("settle"), 1 + 8, "family", 0, 3);
         Edge.gives(fourSwaps().then("settle"), 2 + 4, "family", 1, 3);
+    }
+
+    /** By PACE 2 ten SWAPS, one behind the other; in 140,000 drawn VILLAGES there were never more. */
+    private static final String LONG = "strip a at 11 79 gives 95;strip b at 20 77 gives 99;strip c at 64 30 gives 81;"
+        + "strip d at 10 20 gives 82;strip e at 52 36 gives 86;strip f at 90 20 gives 81;strip g at 35 72 gives 82;"
+        + "strip h at 77 30 gives 86;strip i at 37 20 gives 82;strip j at 52 79 gives 78;"
+        + "family a at 22 2 need 94 holds c holds g;family b at 23 62 need 48 holds b holds f holds h;"
+        + "family c at 89 38 need 88 holds d holds i holds j;family d at 73 46 need 11 holds a holds e;";
+
+    private static void settledByHand() {
+        Edge.says("SETTLED: as long as there are SWAPS");
+        Story[] stories = {couple(20), three(20, 20, 20), fourSwaps(), sixStrips(20, 20, 20), sixStrips(99, 20, 30),
+            Story.of(LONG), Story.of(LONG).then("let", 0, 1), Story.of(LONG).then("let", 0, 2).then("let", 1, 40), Story.rich()};
+        int most = 0;
+        for (Story story : stories) {
+            Story byHand = story;
+            int done = 0;
+            for (Story next = oneSwap(byHand); next != null && done < 100; next = oneSwap(byHand)) {
+                byHand = next;
+                done++;
+            }
+            Edge.gives(story, done, "settle");
+            Edge.same(byHand, story.then("settle"), Portrait.LAND, Portrait.MARKS);
+            most = Math.max(most, done);
+        }
+        Check.due("the longest run of SWAPS among them", most, 10);
+    }
+
+    /** The story with the first SWAP of the first couple done by hold(); null without one. */
+    private static Story oneSwap(Story story) {
+        HailHill hill = story.make();
+        for (int one = 0; one < hill.many(2); one++) {
+            for (int other = one + 1; other < hill.many(2); other++) {
+                if (hill.swaps(one, other) > 0) {
+                    return story.then("hold", hill.swap(one, other, 0, 0), other)
+                        .then("hold", hill.swap(one, other, 0, 1), one);
+                }
+            }
+        }
+        return null;
     }
 }

@@ -96,6 +96,8 @@ final class YearEdges {
                 Edge.refuses(story.then("write", 0, 1, lot), 1, "starved", 0, 0, 2);
                 Edge.refuses(story.then("write", 0, 1, lot), 1, "luck", 0, 0, 2, 1, 1);
                 Edge.gives(story.then("write", 0, 1, lot), 1, "starved", 0, 0, 1);
+                Edge.refuses(story.then("write", 0, 0, lot), 1, "starved", 0, 0, 1);
+                Edge.refuses(story.then("write", 0, 0, lot), 1, "luck", 0, 0, 2, 1, 1);
             }
         }
     }
