@@ -10,6 +10,7 @@ public final class EdgesTest {
         SwapEdges.run();
         GivenEdges.run();
         YearEdges.run();
+        FullestEdges.run();
         Edge.everyPromiseIsQuoted();
         Check.end();
     }

@@ -281,6 +281,11 @@ final class LotEdges {
         Edge.tells(Story.of(six), 1, 16, "hungry", 0, 1);
         String all = "strip a at 0 0 gives 9;family x at 0 0 need 9 holds a;" + "blight takes 1 odds 1;".repeat(6);
         Edge.tells(Story.of(all), 16777216L - 11390625L, 16777216L, "hungry", 0, 1);
+        // 11 without blight, 9 with one, 8 with two, 6 with three; 1 stays in the barn of a year without. In 16 six times over:
+        // 70,966 for three and more, 759,375 for two, 11,390,625 for none.
+        Story barn = Story.of("strip a at 0 0 gives 11;family x at 0 0 need 9 holds a;" + "blight takes 1 odds 1;".repeat(6));
+        long top = 70966L * 16777216 + 759375L * (16777216 - 11390625);
+        Edge.tells(barn, top, 1L << 48, "beside", 0, 2, -1, -1, 0, 0);
         Edge.says("The top of the FRACTION told latest.");
         Edge.gives(half.then("hungry", 0, 1).then("worth", 0, 0), -5, "top");
         Edge.gives(half.then("worth", 0, 0).then("hungry", 0, 1), 1, "top");

@@ -187,6 +187,9 @@ final class SwapEdges {
         Edge.gives(Story.fresh(), 0, "settle");
         Edge.gives(Story.richWithTape(), 0, "settle");
         Edge.gives(Story.of("strip a at 0 0 gives 1;family x at 0 0 need 1 holds a;"), 0, "settle");
+        // Who would be better off without two of its STRIPS does not swap them with itself.
+        Edge.gives(Story.of("strip a at 99 0 gives 1;strip b at 0 99 gives 1;strip c at 0 0 gives 50;"
+            + "family x at 0 0 need 0 holds a holds b holds c;family y at 0 0 need 0;"), 0, "settle");
         Edge.gives(couple(20), 1, "settle");
         Edge.gives(couple(20).then("settle"), 0, "settle");
         Edge.gives(couple(20).then("settle"), 1, "family", 0, 3);

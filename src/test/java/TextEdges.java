@@ -555,6 +555,20 @@ final class TextEdges {
             Check.due("fault(0) of the first " + n + " bytes", hill.fault(0), 2);
             Check.due("fault(1) of the first " + n + " bytes", hill.fault(1), place);
         }
+        // What stands behind the first n bytes makes neither a NUMBER nor a WORD longer.
+        String longer = "strip a at 123 45 gives 67;";
+        int[][] cuts = {{11, 2, 11}, {12, 2, 12}, {13, 2, 13}, {14, 1, 11}, {26, 1, 11}};
+        for (int[] cut : cuts) {
+            HailHill hill = Story.rich().fed(longer).then("village", cut[0]).make();
+            Check.due("status of the first " + cut[0] + " bytes of three digits", hill.status(), 9);
+            Check.due("fault(0) of the first " + cut[0] + " bytes of three digits", hill.fault(0), cut[1]);
+            Check.due("fault(1) of the first " + cut[0] + " bytes of three digits", hill.fault(1), cut[2]);
+        }
+        bad(blanks(599) + "5", 2, 599);
+        bad(blanks(598) + "55", 2, 598);
+        bad(blanks(597) + "555", 1, 597);
+        bad(blanks(599) + "a", 2, 599);
+        bad(blanks(599) + ";", 2, 599);
         bad("strip a at 1 1 gives 1   ", 2, 25);
         bad("strip a at 1 1 gives 1\n", 2, 23);
     }
