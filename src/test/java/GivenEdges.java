@@ -262,6 +262,7 @@ final class GivenEdges {
         Edge.gives(Story.richWithTape(), 0, "together");
         Edge.gives(village(3, 2), 0, "together");
         Edge.gives(Story.of(strips(3)), 0, "together");
+        Edge.says("Sets of STRIPS, of FAMILIES: likewise.");
         // All four lose: each gets what is at another's home.
         StringBuilder text = new StringBuilder();
         for (int i = 0; i < 4; i++) {
@@ -272,6 +273,9 @@ final class GivenEdges {
                 .append((char) ('d' - i)).append(';');
         }
         Edge.gives(Story.of(text.toString()), 15, "together");
+        Edge.gives(Story.of(text.toString()).then("let", 0, 1), 15, "together");
+        // With two of them exchanged ahead, only the first and the last lose.
+        Edge.gives(Story.of(text.toString()).then("hold", 1, 1).then("hold", 2, 2), 9, "together");
     }
 
     private static Story held(String strips, String x, String y) {

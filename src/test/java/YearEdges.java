@@ -138,6 +138,9 @@ final class YearEdges {
         // Who has c already can't be luckier.
         Edge.gives(x, 0, "luck", 1, 0, 1, 0, 100);
         Edge.gives(y, 0, "luck", 0, 0, 1, 0, 100);
+        Edge.says("A deal: the STRIPS as they stand by numbers; from the last place to the second: the one there and the one at the "
+            + "place which the draw by how many places there are up to it tells (the rest) are exchanged. Draws go on from deal to "
+            + "deal");
         // What is nobody's is not dealt: of b and c x gets c in the first, third and fourth deal.
         Story two = three(" holds b", " holds c");
         int[] forTwo = {1, 1, 2, 3, 4, 4};
