@@ -131,6 +131,14 @@ final class GivenEdges {
             Edge.tells(Story.of(text.toString()), hungry, 1, "give", 1);
             Edge.tells(Story.of(text.toString()), hungry, 1, "give", 0);
         }
+        // Of 8 there are 3 left by five HARMS, 2 by all six: who needs 3 is HUNGRY in the very last LOT alone.
+        for (int need = 2; need <= 4; need++) {
+            Story six = Story.of("strip a at 0 0 gives 8;family x at 0 0 need " + need + ";" + "blight takes 1 odds 1;".repeat(6));
+            Edge.tells(six, need > 2 ? 1 : 0, 1, "give", 1);
+        }
+        Story lastLot = Story.of("strip a at 0 0 gives 8;family x at 0 0 need 3;" + "blight takes 1 odds 1;".repeat(6));
+        Edge.tells(lastLot, 1, 16777216, "give", 0);
+        Edge.tells(lastLot.then("likely", 5, 0), 0, 1, "give", 1);
         // One is HUNGRY in one LOT, another one in another: one in the worst.
         Story apart = Story.of("strip a at 0 0 gives 10;strip b at 9 0 gives 10;hail 0 to 0 takes 8 odds 1;hail 9 to 9 takes 8 odds 1;"
             + "family x at 0 0 need 10;family y at 9 0 need 10;").then("likely", 1, 0);
