@@ -11,6 +11,7 @@ public final class EdgesTest {
         GivenEdges.run();
         YearEdges.run();
         FullestEdges.run();
+        SentenceEdges.run();
         Edge.everyPromiseIsQuoted();
         Check.end();
     }
