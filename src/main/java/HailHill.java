@@ -26,6 +26,9 @@ public final class HailHill {
     private static final int MOST_TRAYS = 4;
     private static final int MOST_NUMBERS = 60;
     private static final int MOST_SWAPS = 100;
+    // Above all that is held against them; the language's list has no MAX_VALUE.
+    private static final int HIGHEST = 2147483647;
+    private static final long HIGHEST_LONG = 9223372036854775807L;
 
     private final Village land = new Village();
     private final Village[] marks = new Village[MOST_MARKS];
@@ -389,7 +392,7 @@ public final class HailHill {
             return none(WRONG);
         }
         reckoner.ready();
-        return answer(market.countSwaps(one, other, Integer.MAX_VALUE));
+        return answer(market.countSwaps(one, other, HIGHEST));
     }
 
     public int swap(int one, int other, int k, int what) {
@@ -1163,7 +1166,7 @@ public final class HailHill {
             int row = family << land.strips;
             rounds[row] = 0;
             for (int set = 1; set < sets; set++) {
-                int shortest = Integer.MAX_VALUE;
+                int shortest = HIGHEST;
                 for (int last = 0; last < land.strips; last++) {
                     if ((set >> last & 1) != 0) {
                         int home = stepsFromHome(family, last);
@@ -1178,7 +1181,7 @@ public final class HailHill {
         }
 
         private int shortestWay(int rest, int last) {
-            int shortest = Integer.MAX_VALUE;
+            int shortest = HIGHEST;
             for (int s = 0; s < land.strips; s++) {
                 if ((rest >> s & 1) != 0) {
                     int way = ways[rest * MOST_STRIPS + s] + apart[s * MOST_STRIPS + last];
@@ -1550,7 +1553,7 @@ public final class HailHill {
             }
             startWays();
             stripsThen = land.strips;
-            long least = Long.MAX_VALUE;
+            long least = HIGHEST_LONG;
             boolean more = true;
             for (int i = 0; i < MOST_WAYS && more; i++) {
                 long v = kind == 0 ? weightOfWay() : worstOfWay();

@@ -337,8 +337,8 @@ final class BestEdges {
     }
 
     private static void cousin() {
-        Edge.says("if it is SHORT then, another FAMILY gives it what that has above its own NEED in that LOT (by what that "
-            + "HOLDS, nothing beside), at most what is SHORT.");
+        Edge.says("With a COUSIN: if it is SHORT then, another FAMILY gives it what that has above its own NEED in that LOT (by what "
+            + "that HOLDS, nothing beside), at most what is SHORT.");
         for (int cousinNeed = 0; cousinNeed <= 16; cousinNeed++) {
             Edge.tells(years(10, cousinNeed), cousinNeed <= 5 ? 0 : 1, cousinNeed <= 5 ? 1 : 4, "beside", 0, 0, 1, -1, 0, 0);
         }

@@ -5,11 +5,8 @@ import java.nio.file.Paths;
 import java.util.ArrayList;
 import java.util.Arrays;
 import java.util.HashMap;
-import java.util.HashSet;
 import java.util.List;
 import java.util.Map;
-import java.util.Set;
-import java.util.regex.Matcher;
 import java.util.regex.Pattern;
 
 /**
@@ -141,15 +138,27 @@ final class Edge {
         return document;
     }
 
-    /** So that no promise is left out: something of each one's text must have been quoted. */
-    static void everyPromiseIsQuoted() {
-        Matcher promises = Pattern.compile("## Promise (\\d+): \\S.*?(?=## )").matcher(document());
-        Set<String> seen = new HashSet<>();
-        while (promises.find()) {
-            seen.add(promises.group(1));
-            boolean quoted = QUOTED.stream().anyMatch(words -> promises.group().contains(words));
-            Check.due("words of promise " + promises.group(1) + " are quoted", quoted, true);
+    /** What the document says to no call: titles, fences, and what FaceTest holds the class against. */
+    private static final String[] FRAMES = {"^# HailHill .*? ==== 1\\.", "## The public face ```java .*? ``` ## Terms", "```text", "```",
+        "==== \\d\\.", "The constants: .*? the interface says: ---- MARKS\\.", "## Promise \\d+: [^`]+`[^`]*`:",
+        "; what later calls answer is free\\.", "## Not promised .*$"};
+
+    /** So that no sentence is left out: all that is no frame must have been quoted. */
+    static void everyWordIsQuoted() {
+        StringBuilder rest = new StringBuilder(document());
+        for (String words : QUOTED) {
+            for (int at = document().indexOf(words); at >= 0; at = document().indexOf(words, at + 1)) {
+                rest.replace(at, at + words.length(), "~".repeat(words.length()));
+            }
         }
-        Check.due("promises in the document", seen.size(), 43);
+        String left = rest.toString();
+        for (String frame : FRAMES) {
+            left = left.replaceAll(frame, "~");
+        }
+        for (String words : left.split("~+")) {
+            boolean quoted = !words.matches(".*[A-Za-z0-9].*");
+            Check.due("quoted: " + words, quoted, true);
+        }
+        Check.due("promises in the document", Pattern.compile("## Promise \\d+: ").matcher(document()).results().count(), 43);
     }
 }

@@ -12,7 +12,7 @@ public final class EdgesTest {
         YearEdges.run();
         FullestEdges.run();
         SentenceEdges.run();
-        Edge.everyPromiseIsQuoted();
+        Edge.everyWordIsQuoted();
         Check.end();
     }
 }

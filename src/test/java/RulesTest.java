@@ -11,6 +11,8 @@ import java.util.List;
 import java.util.Random;
 import java.util.Set;
 import java.util.TreeSet;
+import java.util.regex.Matcher;
+import java.util.regex.Pattern;
 
 /** Rules of LANGUAGE.md that a program can look at, and the room that a run takes. */
 public final class RulesTest {
@@ -24,6 +26,7 @@ public final class RulesTest {
         face();
         classesInside();
         words();
+        library();
         methodLengths();
         neverThrows();
         room();
@@ -92,6 +95,20 @@ public final class RulesTest {
         Check.due("a method reference stands in it", source.contains("::"), false);
         Check.due("a static block stands in it", source.matches("(?s).*static\\s*\\{.*"), false);
         Check.due("signs of 1 to 127 alone", source.chars().allMatch(c -> c >= 1 && c <= 127), true);
+    }
+
+    /** Of the Java library just what the language's rule 4 lists and the class needs: no constant such as MAX_VALUE. */
+    private static void library() throws Exception {
+        String source = withoutComments(Files.readString(Paths.get(SOURCE)));
+        Set<String> listed = new TreeSet<>(Arrays.asList("Integer.bitCount(", "Math.abs(", "Math.max(", "Math.min(", "System.arraycopy("));
+        Matcher use = Pattern.compile("\\b(Integer|Long|Short|Byte|Character|Boolean|Math|System|Arrays|Objects|Object|String|StringBuilder"
+            + "|List|ArrayList|Thread|Runtime)\\b(\\.\\w+\\(?)?").matcher(source);
+        int uses = 0;
+        while (use.find()) {
+            uses++;
+            Check.due("stands in the language's list: " + use.group(), listed.contains(use.group()), true);
+        }
+        Check.due("uses of the library were found", uses > 0, true);
     }
 
     private static void methodLengths() throws Exception {
