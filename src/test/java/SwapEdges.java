@@ -232,17 +232,37 @@ final class SwapEdges {
         Edge.gives(fourSwaps().then("settle"), 2 + 4, "family", 1, 3);
     }
 
-    /** By PACE 2 ten SWAPS, one behind the other; in 140,000 drawn VILLAGES there were never more. */
+    /** By PACE 2 ten SWAPS, one behind the other. */
     private static final String LONG = "strip a at 11 79 gives 95;strip b at 20 77 gives 99;strip c at 64 30 gives 81;"
         + "strip d at 10 20 gives 82;strip e at 52 36 gives 86;strip f at 90 20 gives 81;strip g at 35 72 gives 82;"
         + "strip h at 77 30 gives 86;strip i at 37 20 gives 82;strip j at 52 79 gives 78;"
         + "family a at 22 2 need 94 holds c holds g;family b at 23 62 need 48 holds b holds f holds h;"
         + "family c at 89 38 need 88 holds d holds i holds j;family d at 73 46 need 11 holds a holds e;";
 
+    /**
+     * With what is held by longest(), PACE 29 and HUNGER 99: 29 SWAPS. It was sought by small changes of drawn VILLAGES
+     * for hours of reckoning. If each STRIP had a worth of its own to each FAMILY, there could be 37 at most.
+     */
+    private static final String LONGEST = "strip a at 6 99 gives 28 soil 3;strip b at 64 82 gives 29 soil 3;"
+        + "strip c at 49 19 gives 21 soil 2;strip d at 25 56 gives 19 soil 2;strip e at 13 31 gives 82 soil 3;"
+        + "strip f at 9 20 gives 22 soil 2;strip g at 89 76 gives 56 soil 2;strip h at 68 0 gives 26 soil 2;"
+        + "strip i at 34 13 gives 89 soil 2;strip j at 58 66 gives 25 soil 3;blight takes 7 odds 11;dry 1 takes 2 odds 14;"
+        + "dry 2 takes 6 odds 3;blight takes 1 odds 15;dry 3 takes 4 odds 15;dry 2 takes 1 odds 11;"
+        + "family p at 81 45 need 19;family q at 84 57 need 5;family r at 34 99 need 68;";
+
+    private static Story longest() {
+        int[] holders = {0, 2, 0, 0, 2, 1, 1, 0, 0, 2};
+        Story story = Story.of(LONGEST).then("let", 0, 29).then("let", 1, 99);
+        for (int strip = 0; strip < holders.length; strip++) {
+            story = story.then("hold", strip, holders[strip]);
+        }
+        return story;
+    }
+
     private static void settledByHand() {
         Edge.says("SETTLED: as long as there are SWAPS");
         Story[] stories = {couple(20), three(20, 20, 20), fourSwaps(), sixStrips(20, 20, 20), sixStrips(99, 20, 30),
-            Story.of(LONG), Story.of(LONG).then("let", 0, 1), Story.of(LONG).then("let", 0, 2).then("let", 1, 40), Story.rich()};
+            Story.of(LONG), Story.of(LONG).then("let", 0, 1), Story.of(LONG).then("let", 0, 2).then("let", 1, 40), longest(), Story.rich()};
         int most = 0;
         for (Story story : stories) {
             Story byHand = story;
@@ -255,7 +275,7 @@ final class SwapEdges {
             Edge.same(byHand, story.then("settle"), Portrait.LAND, Portrait.MARKS);
             most = Math.max(most, done);
         }
-        Check.due("the longest run of SWAPS among them", most, 10);
+        Check.due("the longest run of SWAPS among them", most, 29);
     }
 
     /** The story with the first SWAP of the first couple done by hold(); null without one. */
